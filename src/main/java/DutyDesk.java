@@ -570,11 +570,12 @@ public final class DutyDesk {
     // ---- duties of drivers
 
     private int dutyOn(int driver, int day) {
-        return driver >= 0 && driver < MOST_DRIVERS && isDay(day) ? roster[driver][day] : NONE;
+        return driver >= 0 && driver < MOST_DRIVERS && day >= 0 && day < DAYS
+                ? roster[driver][day] : NONE;
     }
 
     private void enter(int driver, int day, int duty) {
-        if (driver >= 0 && driver < MOST_DRIVERS && isDay(day)) {
+        if (driver >= 0 && driver < MOST_DRIVERS && day >= 0 && day < DAYS) {
             roster[driver][day] = duty;
         }
     }

@@ -11,6 +11,7 @@ public final class DriversTest {
         sixDays();
         weekPayLimit();
         leastRest();
+        firstLeastRest();
         firstReason();
         wrongNumbers();
         give();
@@ -167,6 +168,24 @@ public final class DriversTest {
         CHECK.due("reason: rest 26 is less than 27", x.reason(0, 3, 3), 7);
         CHECK.due("reason: the last day has none behind", x.reason(0, 6, 3), 0);
         CHECK.due("reason: the first day has none before", x.reason(0, 0, 0), 0);
+    }
+
+    private static void firstLeastRest() {
+        DutyDesk x = new DutyDesk();
+        x.put(x.addDuty(), x.addTrip(0, 0, 400, 500));
+        x.put(x.addDuty(), x.addTrip(0, 0, 1000, 1165));
+        x.put(x.addDuty(), x.addTrip(0, 0, 1000, 1166));
+        x.addDriver();
+        x.give(0, 1, 0);
+        CHECK.due("reason: rest 660 of a new desk", x.reason(0, 0, 1), 0);
+        CHECK.due("reason: rest 659 of a new desk", x.reason(0, 0, 2), 7);
+        x.takeBack(0, 1);
+        CHECK.badArgument(x, "setRules with rest -1", () -> x.setRules(270, 720, 30, -1));
+        x.give(0, 0, 2);
+        CHECK.due("reason: rest 659 of a new desk", x.reason(0, 1, 0), 7);
+        x.takeBack(0, 0);
+        x.give(0, 0, 1);
+        CHECK.due("reason: rest 660 of a new desk", x.reason(0, 1, 0), 0);
     }
 
     private static void firstReason() {

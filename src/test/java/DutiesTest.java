@@ -1,4 +1,4 @@
-/** Promises 7 to 17: addDuty, put, takeOut, duty, tripAt, bestFor, plan, swap, improve, pay, use. */
+/** Promises 7 to 17: addDuty to use, in the document's order. */
 public final class DutiesTest {
 
     private static final Check CHECK = new Check("DutiesTest");
@@ -119,7 +119,7 @@ public final class DutiesTest {
         CHECK.due("put with driving 270, the ways with it", x.put(0, 1), 1);
         CHECK.due("driving", x.duty(0, 6), 270);
         x.addTrip(2, 3, 780, 785);
-        x.addTrip(2, 3, 780, 776 + 10);
+        x.addTrip(2, 3, 780, 786);
         x.setRules(270, 730, 30, 660);
         CHECK.badState(x, "put with spread 731", () -> x.put(0, 4));
         CHECK.due("put with spread 730", x.put(0, 3), 2);
