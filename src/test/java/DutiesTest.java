@@ -129,8 +129,6 @@ public final class DutiesTest {
 
     private static void putIntoWhatIsNotRight() {
         DutyDesk x = wideDesk(t(100, 200), t(250, 300), t(210, 220), t(400, 500));
-        x.setWay(0, 1, 10);
-        x.addTrip(0, 1, 205, 206);
         putAllIntoNewDuty(x, 0, 1);
         x.setRules(99, 1000, 30, 0);
         CHECK.due("duty(0, 7)", x.duty(0, 7), 0);
@@ -138,6 +136,18 @@ public final class DutiesTest {
         CHECK.badState(x, "takeOut, and it stays not right", () -> x.takeOut(1));
         CHECK.due("takeOut, and it becomes right", x.takeOut(0), 0);
         CHECK.due("duty(0, 7)", x.duty(0, 7), 1);
+
+        // The trip from 1 to 2 takes less than the way that is set between them.
+        DutyDesk y = new DutyDesk();
+        y.addTrip(0, 1, 100, 200);
+        y.addTrip(2, 0, 220, 300);
+        y.addTrip(1, 2, 205, 210);
+        putAllIntoNewDuty(y, 0, 1);
+        y.setWay(1, 2, 21);
+        CHECK.due("duty(0, 7)", y.duty(0, 7), 0);
+        CHECK.due("bestFor: it becomes right", y.bestFor(2), 0);
+        CHECK.due("put, and it becomes right", y.put(0, 2), 1);
+        CHECK.due("duty(0, 7)", y.duty(0, 7), 1);
     }
 
     private static void putAllIntoNewDuty(DutyDesk x, int... trips) {
@@ -552,6 +562,15 @@ public final class DutiesTest {
         DutyDesk y = deskOf(true);
         CHECK.due("improve of one duty", y.improve(), 0);
         dueRow("improve of one duty", y, 0, 0, 1, 2, 3, 4);
+        DutyDesk w = wideDesk(t(100, 220), t(300, 420), t(500, 620), t(700, 820));
+        w.setRules(600, 1000, 90, 0);
+        putAllIntoNewDuty(w, 0, 1, 2, 3);
+        CHECK.due("improve makes no new duty", w.improve(), 0);
+        dueRow("improve makes no new duty", w, 0, 0, 1, 2, 3);
+        w.addDuty();
+        CHECK.due("improve with a duty without trips", w.improve(), 720 - 862);
+        dueRow("improve with a duty without trips", w, 0, 0, 1);
+        dueRow("improve with a duty without trips", w, 1, 2, 3);
         DutyDesk z = deskOf(true, false);
         z.setRules(114, 1000, 90, 0);
         CHECK.due("improve: all would not be right", z.improve(), 0);

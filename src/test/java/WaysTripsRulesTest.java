@@ -114,7 +114,7 @@ public final class WaysTripsRulesTest {
         CHECK.due("end", x.duty(0, 2), 180);
         x.setWay(0, 1, 90);
         CHECK.due("begin, less than 0 is fine", x.duty(0, 1), 0);
-        x.setWay(1, 0, 91 - 1);
+        x.setWay(1, 0, 90);
         x.setWay(4, 0, 1);
         CHECK.due("end", x.duty(0, 2), 166);
         CHECK.due("driving", x.duty(0, 6), 90 + 20 + 15 + 20 + 1);
