@@ -388,7 +388,8 @@ public final class DutyDesk {
     }
 
     private Duty dutyAt(int duty) {
-        return duty >= 0 && duty < duties.length ? duties[duty] : noDuty;
+        Duty found = duty >= 0 && duty < duties.length ? duties[duty] : noDuty;
+        return found == null ? noDuty : found;
     }
 
     private int dutyOf(int trip) {
@@ -755,7 +756,8 @@ public final class DutyDesk {
         }
 
         int minutesOf(int trip) {
-            return arrivalOf(trip) - departureOf(trip);
+            return trip >= 0 && trip < departure.length && trip < arrival.length
+                    ? arrival[trip] - departure[trip] : 0;
         }
     }
 
