@@ -36,6 +36,7 @@ public final class DriversBoundsTest {
         CHECK.test("22: if there is no such driver or day", () -> givenNoSuch());
         CHECK.test("23: for each duty with trips that no driver has", () -> fillOpenDuties());
         CHECK.test("23: in ascending order of their begins", () -> fillByBegin());
+        CHECK.test("23: in ascending order of their begins, again", () -> fillAgain());
         CHECK.test("23: of the same begin of their numbers", () -> fillByNumber());
         CHECK.test("23: to whom it can be given", () -> fillWhoCan());
         CHECK.test("23: whose pay in the week is least", () -> fillLeastPay());
@@ -321,6 +322,18 @@ public final class DriversBoundsTest {
         dueDay("fill, begins of -1, -20 and -10", z, 0, 1, 2, 0);
         DutyDesk w = WIDE.dutyOf(100, 200).dutyOf(99, 200).drivers(1).then(y -> y.fill(0)).make();
         dueDay("fill, one driver for two", w, 0, 1);
+    }
+
+    private static void fillAgain() {
+        // What an earlier plan() or fill() looked at does not come into the order of a later one.
+        Recipe planned = WIDE.trips(300, 500, 100, 330).then(x -> x.plan())
+                .then(x -> x.takeOut(1)).trips(160, 250).then(x -> x.put(0, 2)).drivers(2);
+        DutyDesk x = planned.then(y -> y.fill(0)).make();
+        dueDay("fill behind plan", x, 0, 0, 1);
+        Recipe filled = WIDE.dutyOf(200, 300).dutyOf(100, 110, 400, 500).drivers(2)
+                .then(y -> y.fill(0)).then(y -> y.takeBack(0, 0)).then(y -> y.takeBack(1, 0))
+                .then(y -> y.takeOut(1));
+        dueDay("fill behind fill", filled.then(y -> y.fill(0)).make(), 0, 0, 1);
     }
 
     private static void fillByNumber() {

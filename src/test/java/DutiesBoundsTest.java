@@ -23,6 +23,7 @@ public final class DutiesBoundsTest {
         CHECK.test("8: the duty is fixed", () -> putFixed());
         CHECK.test("8: it has a trip with the same departure", () -> putSameDeparture());
         CHECK.test("8: or it would not be right: idle time", () -> putIdle());
+        CHECK.test("8: or it would not be right, but now is", () -> putCures());
         CHECK.test("8: or it would not be right: driving", () -> putDriving());
         CHECK.test("8: or it would not be right: spread", () -> putSpread());
         CHECK.test("9: Returns the duty", () -> takeOutAnswers());
@@ -47,6 +48,7 @@ public final class DutiesBoundsTest {
         CHECK.test("12: if there is no such trip", () -> bestForNoTrip());
         CHECK.test("13: for each trip that is in no duty", () -> planNothing());
         CHECK.test("13: in ascending order of their departures", () -> planByDeparture());
+        CHECK.test("13: for each trip .. in no duty, once more", () -> planAgain());
         CHECK.test("13: of the same departure of their numbers", () -> planByNumber());
         CHECK.test("13: into the duty that bestFor() tells", () -> planLikeBestFor());
         CHECK.test("13: if there is none, into a new one", () -> planNewOne());
@@ -64,6 +66,8 @@ public final class DutiesBoundsTest {
         CHECK.test("15: the one with the smallest a", () -> improveSmallestA());
         CHECK.test("15: then the smallest b", () -> improveSmallestB());
         CHECK.test("15: then the earliest time", () -> improveEarliest());
+        CHECK.test("15: of the departures of all: the first", () -> improveFirstDepartures());
+        CHECK.test("15: of the departures of all: the last", () -> improveLastDepartures());
         CHECK.test("15: if this number is less than 0", () -> improveLessThan0());
         CHECK.test("15: the one that swap() would do", () -> improveLikeSwap());
         CHECK.test("15: 0 if no exchange was made", () -> improveNoExchange());
@@ -105,10 +109,7 @@ public final class DutiesBoundsTest {
         CHECK.answer(ahead, "the first place", 0, x -> x.put(0, 2));
         Recipe behind = WIDE.trips(100, 110, 200, 210, 210, 211).duty(0, 1);
         CHECK.answer(behind, "the last place", 2, x -> x.put(0, 2));
-        Recipe all = WIDE.duty();
-        for (int trip = 0; trip < 40; trip++) {
-            all = all.trips(10 * trip, 10 * trip + 5);
-        }
+        Recipe all = WIDE.duty().tripsInARow(0, 40);
         for (int trip = 0; trip < 39; trip++) {
             int number = trip;
             all = all.then(x -> x.put(0, number));
@@ -172,6 +173,18 @@ public final class DutiesBoundsTest {
         CHECK.answer(between, "put between, idle times 0", 1, x -> x.put(0, 2));
         CHECK.badState(between, "put between, idle time -1 behind it", x -> x.put(0, 3));
         CHECK.badState(between, "put between, idle time -1 ahead of it", x -> x.put(0, 4));
+    }
+
+    private static void putCures() {
+        // The trip from 1 to 2 takes less than the way that is set between them.
+        Recipe wrong = WIDE.trip(0, 1, 100, 200).trip(2, 0, 220, 300).trip(1, 2, 205, 210)
+                .trip(1, 2, 199, 210).duty(0, 1).way(1, 2, 21);
+        CHECK.answer(wrong, "duty(0, 7)", 0, x -> x.duty(0, 7));
+        CHECK.answer(wrong, "put, it becomes right", 1, x -> x.put(0, 2));
+        CHECK.answer(wrong.then(x -> x.put(0, 2)), "duty(0, 7) then", 1, x -> x.duty(0, 7));
+        CHECK.onlyAsks(wrong, "bestFor, it would become right", 0, x -> x.bestFor(2));
+        CHECK.badState(wrong, "put, it stays not right", x -> x.put(0, 3));
+        CHECK.onlyAsks(wrong, "bestFor, it would stay not right", -1, x -> x.bestFor(3));
     }
 
     private static void putDriving() {
@@ -267,6 +280,8 @@ public final class DutiesBoundsTest {
         CHECK.answer(wrong, "takeOut, it becomes right", 0, x -> x.takeOut(0));
         Recipe only = WIDE.trips(100, 200).duty(0).rules(99, 1000, 30, 0);
         CHECK.answer(only, "takeOut of the only trip, not right", 0, x -> x.takeOut(0));
+        CHECK.answer(wrong.then(x -> x.takeOut(0)), "duty(0, 7) then", 1, x -> x.duty(0, 7));
+        CHECK.answer(only.then(x -> x.takeOut(0)), "duty(0, 7) then", 1, x -> x.duty(0, 7));
     }
 
     private static void takeOutSpread() {
@@ -419,6 +434,22 @@ public final class DutiesBoundsTest {
         CHECK.row("plan, a minute later", z, 1, 0);
     }
 
+    private static void planAgain() {
+        // What an earlier fill() or plan() looked at does not come into the order of a later one.
+        Recipe open = WIDE.trips(200, 400, 300, 500).dutyOf(490, 700).dutyOf(100, 340).drivers(8);
+        DutyDesk x = open.then(y -> y.fill(0)).then(y -> y.plan()).make();
+        CHECK.row("plan behind fill", x, 2, 0);
+        CHECK.row("plan behind fill", x, 3, 1);
+        Recipe emptied = WIDE.tripsInARow(0, 40).then(y -> y.plan());
+        for (int trip = 0; trip < 40; trip++) {
+            int number = trip;
+            emptied = emptied.then(y -> y.takeOut(number));
+        }
+        CHECK.answer(emptied, "count(3), all are out", 40, y -> y.count(3));
+        CHECK.answer(emptied, "plan of 40 again", 0, y -> y.plan());
+        CHECK.answer(emptied.then(y -> y.plan()), "duty(0, 0)", 40, y -> y.duty(0, 0));
+    }
+
     private static void planByNumber() {
         DutyDesk x = WIDE.trips(100, 200, 100, 150, 100, 300, 50, 60).then(y -> y.plan()).make();
         CHECK.row("plan", x, 0, 3, 0);
@@ -494,10 +525,7 @@ public final class DutiesBoundsTest {
         CHECK.answer(full, "plan of 40 beside each other", 28, x -> x.plan());
         CHECK.answer(full.then(x -> x.plan()), "plan again", 28, x -> x.plan());
         CHECK.answer(full.then(x -> x.plan()), "count(3)", 28, x -> x.count(3));
-        Recipe row = WIDE;
-        for (int trip = 0; trip < 40; trip++) {
-            row = row.trips(10 * trip, 10 * trip + 5);
-        }
+        Recipe row = WIDE.tripsInARow(0, 40);
         CHECK.answer(row, "plan of 40 behind each other", 0, x -> x.plan());
         CHECK.answer(row.then(x -> x.plan()), "count(1)", 1, x -> x.count(1));
     }
@@ -617,7 +645,9 @@ public final class DutiesBoundsTest {
         Recipe cured = WIDE.dutyOf(100, 200, 210, 310).dutyOf(150, 160, 215, 225);
         CHECK.answer(cured.rules(110, 1000, 30, 0), "swap, a becomes right", 0,
                 x -> x.swap(0, 1, 205));
-        CHECK.badState(cured.rules(109, 1000, 30, 0), "swap, a becomes not right",
+        CHECK.answer(cured.rules(110, 1000, 30, 0).then(x -> x.swap(0, 1, 205)),
+                "duty(0, 7) then", 1, x -> x.duty(0, 7));
+        CHECK.badState(cured.rules(109, 1000, 30, 0), "swap, a stays not right",
                 x -> x.swap(0, 1, 205));
     }
 
@@ -646,6 +676,13 @@ public final class DutiesBoundsTest {
         CHECK.row("improve", x, 0, 0, 1, 2);
         CHECK.row("improve", x, 1, 5, 6, 7, 8, 9);
         CHECK.row("improve", x, 2, 10, 3, 4);
+        // The time of the pair 1 and 2 is earlier, but the smallest a goes before.
+        int[] later = {110, 230, 230, 350, 350, 470, 470, 590, 590, 695};
+        DutyDesk y = LONG_BREAKS.dutyOf(later).dutyOf(LONG).dutyOf(SHORT).make();
+        CHECK.due("improve", y.improve(), -285);
+        CHECK.row("improve, at a later time", y, 0, 0, 1, 2);
+        CHECK.row("improve, at a later time", y, 1, 5, 6, 7, 8, 9);
+        CHECK.row("improve, at a later time", y, 2, 10, 3, 4);
     }
 
     private static void improveSmallestB() {
@@ -654,6 +691,13 @@ public final class DutiesBoundsTest {
         CHECK.row("improve", x, 0, 0, 1, 2);
         CHECK.row("improve", x, 1, 5, 3, 4);
         CHECK.row("improve", x, 2, 6);
+        // The time of the pair 0 and 2 is earlier, but the smallest b goes before.
+        DutyDesk z = LONG_BREAKS.dutyOf(SHORT)
+                .dutyOf(110, 230, 230, 350, 350, 470, 470, 590, 590, 695).dutyOf(LONG).make();
+        CHECK.due("improve, at a later time", z.improve(), -285);
+        CHECK.row("improve, at a later time", z, 0, 0, 4, 5);
+        CHECK.row("improve, at a later time", z, 1, 1, 2, 3);
+        CHECK.row("improve, at a later time", z, 2, 6, 7, 8, 9, 10);
         // The smallest a goes before the smallest b: the pairs 0 and 3, 1 and 2 save the same.
         DutyDesk y = LONG_BREAKS.dutyOf(LONG).dutyOf(LONG).drivers(1).dutyOf(SHORT)
                 .dutyOf(SHORT).give(0, 2, 0).make();
@@ -675,6 +719,29 @@ public final class DutiesBoundsTest {
         CHECK.due("improve, 300 is of a", y.improve(), -150);
         CHECK.row("improve, 300 is of a", y, 0, 0, 1, 5);
         CHECK.row("improve, 300 is of a", y, 1, 4, 2, 3);
+    }
+
+    private static void improveFirstDepartures() {
+        // Only at its first departure one duty comes whole behind the other, and one is left.
+        DutyDesk x = LONG_BREAKS.dutyOf(100, 200).dutyOf(400, 500).make();
+        CHECK.due("improve, the first departure of b", x.improve(), -360);
+        CHECK.row("improve, the first departure of b", x, 0, 0, 1);
+        CHECK.row("improve, the first departure of b", x, 1);
+        DutyDesk y = LONG_BREAKS.dutyOf(400, 500).dutyOf(100, 200).make();
+        CHECK.due("improve, the first departure of a", y.improve(), -360);
+        CHECK.row("improve, the first departure of a", y, 0);
+        CHECK.row("improve, the first departure of a", y, 1, 1, 0);
+    }
+
+    private static void improveLastDepartures() {
+        DutyDesk x = LONG_BREAKS.dutyOf(100, 340, 340, 465, 465, 685).dutyOf(100, 200).make();
+        CHECK.due("improve, the last departure of a", x.improve(), -280);
+        CHECK.row("improve, the last departure of a", x, 0, 0, 1);
+        CHECK.row("improve, the last departure of a", x, 1, 3, 2);
+        DutyDesk y = LONG_BREAKS.dutyOf(100, 200).dutyOf(100, 340, 340, 465, 465, 685).make();
+        CHECK.due("improve, the last departure of b", y.improve(), -280);
+        CHECK.row("improve, the last departure of b", y, 0, 0, 3);
+        CHECK.row("improve, the last departure of b", y, 1, 1, 2);
     }
 
     private static void improveLessThan0() {
@@ -715,6 +782,12 @@ public final class DutiesBoundsTest {
         CHECK.onlyAsks(LONG_BREAKS.dutyOf(LONG), "improve of one duty", 0, x -> x.improve());
         Recipe one = LONG_BREAKS.dutyOf(SHORT).duty();
         CHECK.onlyAsks(one, "improve beside a duty without trips", 0, x -> x.improve());
+        // Two duties would be paid less than this one, but there is no second one.
+        Recipe wide = LONG_BREAKS.dutyOf(100, 220, 300, 420, 500, 620, 700, 820);
+        CHECK.onlyAsks(wide, "improve makes no duty", 0, x -> x.improve());
+        CHECK.onlyAsks(wide.drivers(1), "improve makes no duty", 0, x -> x.improve());
+        CHECK.answer(wide.duty(), "improve into a duty without trips", -142, x -> x.improve());
+        CHECK.answer(wide.duty().then(x -> x.improve()), "duty(1, 0)", 2, x -> x.duty(1, 0));
     }
 
     // ---- promises 16 and 17

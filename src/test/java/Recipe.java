@@ -54,6 +54,15 @@ final class Recipe {
         return more;
     }
 
+    /** Depot trips from a number to below another one: the trip n departs at 10 * n. */
+    Recipe tripsInARow(int first, int end) {
+        Recipe more = this;
+        for (int trip = first; trip < end; trip++) {
+            more = more.trips(10 * trip, 10 * trip + 5);
+        }
+        return more;
+    }
+
     /** A new duty with these trips. */
     Recipe duty(int... trips) {
         return then(x -> {

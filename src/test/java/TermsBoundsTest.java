@@ -1,4 +1,4 @@
-/** The boundary cases of the document's parts "What it is" and "Terms", a test for each sentence. */
+/** The boundary cases of "What it is" and "Terms", a test for each sentence of the document. */
 public final class TermsBoundsTest {
 
     private static final Check CHECK = new Check("TermsBoundsTest");
@@ -29,7 +29,7 @@ public final class TermsBoundsTest {
         CHECK.test("and half of what its work is more than 480", () -> halfAbove480());
         CHECK.test("A duty without trips begins and ends at 0", () -> dutyWithoutTrips());
         CHECK.test("right, if no idle time is less than 0", () -> idleLessThan0());
-        CHECK.test("the driving of each stretch is at most the driving limit", () -> drivingLimit());
+        CHECK.test("the driving of each stretch is at most the limit", () -> drivingLimit());
         CHECK.test("the driving limit (270, at first)", () -> drivingLimitAtFirst());
         CHECK.test("its spread at most the spread limit", () -> spreadLimit());
         CHECK.test("the spread limit (720, at first)", () -> spreadLimitAtFirst());
@@ -48,7 +48,7 @@ public final class TermsBoundsTest {
         CHECK.test("its trips cannot be changed", () -> fixedTripsStay());
         CHECK.test("When ways are set, all stays as it is", () -> waysLeaveAll());
         CHECK.test("When rules are set, all stays as it is", () -> rulesLeaveAll());
-        CHECK.test("A method that throws an exception changes nothing", () -> throwsChangeNothing());
+        CHECK.test("A method that throws .. changes nothing", () -> throwsChangeNothing());
         CHECK.test("If several exceptions apply, the first is thrown", () -> firstException());
         CHECK.end();
     }
@@ -595,17 +595,12 @@ public final class TermsBoundsTest {
         Recipe full = mixed.emptyDuties(9).drivers(6);
         CHECK.badState(full, "addDuty()", x -> x.addDuty());
         CHECK.badState(full, "addDriver()", x -> x.addDriver());
-        for (int trip = 5; trip < 40; trip++) {
-            full = full.trips(10 * trip, 10 * trip + 5);
-        }
-        CHECK.badState(full, "addTrip(0, 0, 5, 6)", x -> x.addTrip(0, 0, 5, 6));
+        CHECK.badState(full.tripsInARow(5, 40), "addTrip(0, 0, 5, 6)",
+                x -> x.addTrip(0, 0, 5, 6));
     }
 
     private static void firstException() {
-        Recipe full = Recipe.mixed();
-        for (int trip = 5; trip < 40; trip++) {
-            full = full.trips(10 * trip, 10 * trip + 5);
-        }
+        Recipe full = Recipe.mixed().tripsInARow(5, 40);
         CHECK.noSuch(full, "setWay(6, 6, 0)", x -> x.setWay(6, 6, 0));
         CHECK.noSuch(full, "setWay(0, -1, 91)", x -> x.setWay(0, -1, 91));
         CHECK.noSuch(full, "addTrip(0, 6, 5, 5)", x -> x.addTrip(0, 6, 5, 5));

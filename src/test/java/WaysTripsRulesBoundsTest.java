@@ -125,18 +125,10 @@ public final class WaysTripsRulesBoundsTest {
         CHECK.answer(NEW, "the first one", 0, x -> x.addTrip(0, 0, 100, 200));
         CHECK.answer(NEW.trips(100, 200), "the same once more", 1,
                 x -> x.addTrip(0, 0, 100, 200));
-        CHECK.answer(fullOfTrips(39), "the last one", 39, x -> x.addTrip(0, 0, 100, 200));
+        CHECK.answer(NEW.tripsInARow(0, 39), "the last one", 39, x -> x.addTrip(0, 0, 100, 200));
         Recipe refused = NEW.trips(100, 200)
                 .then(x -> Check.outcome(() -> x.addTrip(0, 0, 200, 200)));
         CHECK.answer(refused, "a refused one has no number", 1, x -> x.addTrip(0, 0, 100, 200));
-    }
-
-    private static Recipe fullOfTrips(int many) {
-        Recipe full = NEW;
-        for (int trip = 0; trip < many; trip++) {
-            full = full.trips(10 * trip, 10 * trip + 5);
-        }
-        return full;
     }
 
     private static void addTripNoPoint() {
@@ -197,14 +189,14 @@ public final class WaysTripsRulesBoundsTest {
     }
 
     private static void fortyTrips() {
-        CHECK.answer(fullOfTrips(39), "the 40th", 39, x -> x.addTrip(5, 4, 1700, 1799));
-        CHECK.badState(fullOfTrips(40), "the 41st", x -> x.addTrip(5, 4, 1700, 1799));
-        CHECK.answer(fullOfTrips(40), "count(0)", 40, x -> x.count(0));
-        Recipe inDuty = fullOfTrips(40).duty(0, 39);
+        CHECK.answer(NEW.tripsInARow(0, 39), "the 40th", 39, x -> x.addTrip(5, 4, 1700, 1799));
+        CHECK.badState(NEW.tripsInARow(0, 40), "the 41st", x -> x.addTrip(5, 4, 1700, 1799));
+        CHECK.answer(NEW.tripsInARow(0, 40), "count(0)", 40, x -> x.count(0));
+        Recipe inDuty = NEW.tripsInARow(0, 40).duty(0, 39);
         CHECK.badState(inDuty, "the 41st, some are in duties", x -> x.addTrip(5, 4, 1700, 1799));
-        CHECK.badArgument(fullOfTrips(40), "wrong times are named before",
+        CHECK.badArgument(NEW.tripsInARow(0, 40), "wrong times are named before",
                 x -> x.addTrip(5, 4, 1700, 1800));
-        CHECK.noSuch(fullOfTrips(40), "no such point is named before",
+        CHECK.noSuch(NEW.tripsInARow(0, 40), "no such point is named before",
                 x -> x.addTrip(6, 4, 1700, 1799));
     }
 
@@ -227,8 +219,8 @@ public final class WaysTripsRulesBoundsTest {
             }
         }
         CHECK.answer(MIXED, "trip(4, 2)", 700, x -> x.trip(4, 2));
-        CHECK.noSuch(fullOfTrips(40), "trip(40, 0)", x -> x.trip(40, 0));
-        CHECK.answer(fullOfTrips(40), "trip(39, 3)", 395, x -> x.trip(39, 3));
+        CHECK.noSuch(NEW.tripsInARow(0, 40), "trip(40, 0)", x -> x.trip(40, 0));
+        CHECK.answer(NEW.tripsInARow(0, 40), "trip(39, 3)", 395, x -> x.trip(39, 3));
     }
 
     private static void tripNoWhat() {
@@ -356,7 +348,7 @@ public final class WaysTripsRulesBoundsTest {
     // ---- promise 6
 
     private static void countEmptyAndFull() {
-        Recipe full = fullOfTrips(40).emptyDuties(12).drivers(8);
+        Recipe full = NEW.tripsInARow(0, 40).emptyDuties(12).drivers(8);
         int[] due = {40, 12, 8, 40};
         for (int what = 0; what <= 3; what++) {
             int asked = what;

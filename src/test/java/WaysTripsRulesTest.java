@@ -148,7 +148,8 @@ public final class WaysTripsRulesTest {
         int[][] wrongTimes = {
             {-1, 10}, {10, 10}, {10, 9}, {0, 0}, {0, 241}, {100, 341}, {1799, 1800}, {1700, 1800},
             {1799, 1799}, {1800, 1801}, {Integer.MIN_VALUE, 10},
-            {Integer.MIN_VALUE, Integer.MAX_VALUE}, {-1, Integer.MAX_VALUE}, {0, Integer.MAX_VALUE}, {0, Integer.MIN_VALUE},
+            {Integer.MIN_VALUE, Integer.MAX_VALUE}, {-1, Integer.MAX_VALUE},
+            {0, Integer.MAX_VALUE}, {0, Integer.MIN_VALUE},
             {Integer.MAX_VALUE, Integer.MIN_VALUE}, {Integer.MAX_VALUE, 10},
         };
         for (int[] times : wrongTimes) {
