@@ -86,9 +86,8 @@ public final class TermsBoundsTest {
         CHECK.due("work over midnight", x.duty(1, 3), 85);
         CHECK.due("rest from behind midnight", x.rest(0, 1), 90 + 1440 - 1505);
         CHECK.answer(new Recipe(), "addTrip from 1440", 0, y -> y.addTrip(0, 0, 1440, 1500));
-        DutyDesk z = WIDE.trips(0, 10, 1440, 1450).duty(1).rules(600, 240, 30, 0).make();
-        CHECK.due("1440 is not 0 again", Check.outcome(() -> z.put(0, 0)),
-                IllegalStateException.class.getName());
+        Recipe apart = WIDE.trips(0, 10, 1440, 1450).duty(1).rules(600, 240, 30, 0);
+        CHECK.badState(apart, "1440 is not 0 again", z -> z.put(0, 0));
     }
 
     private static void cutTowards0() {
