@@ -9,7 +9,10 @@ import java.util.function.LongSupplier;
 public final class ModelTest {
 
     private static final Check CHECK = new Check("ModelTest");
-    private static final int RUNS = 240;
+    private static final int RUNS = 320;
+    private static final int KINDS = 8;
+    /** Runs of this kind and the next one are about drivers whose weeks are nearly full. */
+    private static final int FULL_WEEKS = 6;
     /** The document promises 512 calls for an object. */
     private static final int CALLS = 512;
 
@@ -24,7 +27,7 @@ public final class ModelTest {
 
     private ModelTest(int run) {
         this.run = run;
-        this.kind = run % 6;
+        this.kind = run % KINDS;
         this.seed = 0x9E3779B97F4A7C15L * (run + 1);
     }
 
@@ -52,9 +55,14 @@ public final class ModelTest {
     }
 
     private void play() {
+        if (kind >= FULL_WEEKS) {
+            setRules(600, 1000, 10 + next(81), next(400));
+        }
         while (calls < CALLS && !CHECK.hasWrong()) {
             if (calls < 60 && !oneOf(4)) {
                 addTrip();
+            } else if (kind >= FULL_WEEKS && !oneOf(6)) {
+                fillWeeks();
             } else {
                 call();
             }
@@ -90,7 +98,7 @@ public final class ModelTest {
     }
 
     private int point() {
-        int reach = kind == 0 ? 1 : kind == 1 ? 2 : 6;
+        int reach = kind == 0 ? 1 : kind == 1 || kind >= FULL_WEEKS ? 2 : 6;
         return oneOf(30) ? number(6) : next(reach);
     }
 
@@ -99,7 +107,7 @@ public final class ModelTest {
         int to = point();
         int step = kind == 2 ? 1 : 10;
         int departure = kind == 3 ? next(1799) : 200 + step * next(kind == 4 ? 30 : 90);
-        int minutes = kind == 5 ? 1 + next(240) : 10 + 5 * next(20);
+        int minutes = kind >= 5 ? 1 + next(240) : 10 + 5 * next(20);
         int arrival = oneOf(40) ? number(1800) : departure + minutes;
         int leaves = oneOf(40) ? number(1800) : departure;
         compare("addTrip(" + from + ", " + to + ", " + leaves + ", " + arrival + ")",
@@ -156,21 +164,66 @@ public final class ModelTest {
     }
 
     private void changeDrivers() {
+        int dice = next(12);
+        if (dice < 2) {
+            addDriver();
+        } else if (dice < 6) {
+            give();
+        } else if (dice < 11) {
+            takeBack();
+        } else {
+            fill();
+        }
+    }
+
+    /** Few drivers and few duties taken back: so six days, pay and rest stand in the way. */
+    private void fillWeeks() {
+        int dice = next(20);
+        if (model.count(2) <= kind - FULL_WEEKS) {
+            addDriver();
+        } else if (dice < 8) {
+            give();
+        } else if (dice < 16) {
+            askReason();
+        } else if (dice < 17) {
+            compare("plan()", desk::plan, model::plan);
+        } else if (dice < 18) {
+            fill();
+        } else {
+            takeBack();
+        }
+    }
+
+    private void addDriver() {
+        compare("addDriver()", desk::addDriver, model::addDriver);
+    }
+
+    private void give() {
         int driver = number(model.count(2));
         int day = number(7);
         int duty = number(model.count(1));
-        int dice = next(12);
-        if (dice < 2) {
-            compare("addDriver()", desk::addDriver, model::addDriver);
-        } else if (dice < 6) {
-            compare("give(" + driver + ", " + day + ", " + duty + ")",
-                    () -> desk.give(driver, day, duty), () -> model.give(driver, day, duty));
-        } else if (dice < 11) {
-            compare("takeBack(" + driver + ", " + day + ")",
-                    () -> desk.takeBack(driver, day), () -> model.takeBack(driver, day));
-        } else {
-            compare("fill(" + day + ")", () -> desk.fill(day), () -> model.fill(day));
-        }
+        compare("give(" + driver + ", " + day + ", " + duty + ")",
+                () -> desk.give(driver, day, duty), () -> model.give(driver, day, duty));
+    }
+
+    private void takeBack() {
+        int driver = number(model.count(2));
+        int day = number(7);
+        compare("takeBack(" + driver + ", " + day + ")",
+                () -> desk.takeBack(driver, day), () -> model.takeBack(driver, day));
+    }
+
+    private void fill() {
+        int day = number(7);
+        compare("fill(" + day + ")", () -> desk.fill(day), () -> model.fill(day));
+    }
+
+    private void askReason() {
+        int driver = number(model.count(2));
+        int day = number(7);
+        int duty = number(model.count(1));
+        compare("reason(" + driver + ", " + day + ", " + duty + ")",
+                () -> desk.reason(driver, day, duty), () -> model.reason(driver, day, duty));
     }
 
     private void changeWaysOrRules() {
@@ -186,6 +239,10 @@ public final class ModelTest {
         int spread = oneOf(20) ? number(1002) : 600 + next(401);
         int pause = oneOf(20) ? number(92) : 10 + next(81);
         int rest = oneOf(20) ? number(902) : next(901);
+        setRules(driving, spread, pause, rest);
+    }
+
+    private void setRules(int driving, int spread, int pause, int rest) {
         compare("setRules(" + driving + ", " + spread + ", " + pause + ", " + rest + ")",
                 () -> desk.setRules(driving, spread, pause, rest),
                 () -> model.setRules(driving, spread, pause, rest));
@@ -225,9 +282,7 @@ public final class ModelTest {
                         () -> Double.doubleToLongBits(model.use()));
                 break;
             case 7:
-                compare("reason(" + driver + ", " + day + ", " + duty + ")",
-                        () -> desk.reason(driver, day, duty),
-                        () -> model.reason(driver, day, duty));
+                askReason();
                 break;
             case 8:
                 compare("given(" + driver + ", " + day + ")",

@@ -9,6 +9,7 @@ public final class WaysTripsRulesBoundsTest {
     private static final int[] NO_POINTS = {-1, 6, MIN, MAX};
 
     public static void main(String[] args) {
+        CHECK.test("1: Creates a desk", () -> desksOfTheirOwn());
         CHECK.test("1: without trips", () -> newWithoutTrips());
         CHECK.test("1: without duties", () -> newWithoutDuties());
         CHECK.test("1: without drivers", () -> newWithoutDrivers());
@@ -37,6 +38,16 @@ public final class WaysTripsRulesBoundsTest {
     }
 
     // ---- promise 1
+
+    private static void desksOfTheirOwn() {
+        Recipe other = Recipe.wide().way(0, 1, 90).dutyOf(100, 200).drivers(8).give(7, 0, 6);
+        String mixedAlone = Look.of(MIXED.make());
+        String otherAlone = Look.of(other.make());
+        DutyDesk first = MIXED.make();
+        DutyDesk second = other.make();
+        CHECK.due("a look at the first of two desks", Look.of(first), mixedAlone);
+        CHECK.due("a look at the second of two desks", Look.of(second), otherAlone);
+    }
 
     private static void newWithoutTrips() {
         CHECK.onlyAsks(NEW, "count(0)", 0, x -> x.count(0));
